@@ -711,7 +711,10 @@ public final class HopeOffice {
                 if (i == MOST_CLAUSES) {
                     return tape.refuse(NINTH_CLAUSE);
                 }
-                if (!readShares(tape) || !readCondition(tape)) {
+                if (!readShares(tape)) {
+                    return false;
+                }
+                if (tape.take('(') && !(readEither(tape, 1) && closes(tape))) {
                     return false;
                 }
                 shareEnd[i] = shareCount;
@@ -786,10 +789,6 @@ public final class HopeOffice {
             }
             letters |= 1 << o;
             return o;
-        }
-
-        private boolean readCondition(Tape tape) {
-            return !tape.take('(') || (readEither(tape, 1) && closes(tape));
         }
 
         private static boolean closes(Tape tape) {
@@ -927,20 +926,15 @@ public final class HopeOffice {
                 children[o] = 0;
             }
             for (int o = 0; o < people.size && o < MOST_PERSONS; o++) {
-                if (people.toldIn[o] <= t) {
-                    learnOf(people, o, t);
+                if (people.toldIn[o] > t) {
+                    continue;
                 }
-            }
-        }
-
-        private void learnOf(People people, int o, int t) {
-            there |= 1 << o;
-            if (people.knownDead(o, t)) {
-                dead |= 1 << o;
-            }
-            int parent = people.parent[o];
-            if (parent >= 0 && parent < MOST_PERSONS) {
-                children[parent] |= 1 << o;
+                there |= 1 << o;
+                dead |= people.knownDead(o, t) ? 1 << o : 0;
+                int parent = people.parent[o];
+                if (parent >= 0 && parent < MOST_PERSONS) {
+                    children[parent] |= 1 << o;
+                }
             }
         }
 
@@ -1069,14 +1063,14 @@ public final class HopeOffice {
                 if ((persons >>> o & 1) == 0) {
                     continue;
                 }
-                int lives = tables.livesAt(tableNumber, y - people.born[o]);
-                if (living >= MOST_LIVING || lives <= 0) {
+                int hasNow = tables.livesAt(tableNumber, y - people.born[o]);
+                if (living >= MOST_LIVING || hasNow <= 0) {
                     return false;
                 }
                 person[living] = o;
                 age[living] = y - people.born[o];
-                has[living] = lives;
-                whole *= lives;
+                has[living] = hasNow;
+                whole *= hasNow;
                 living++;
             }
             return true;
