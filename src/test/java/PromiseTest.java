@@ -375,6 +375,7 @@ public final class PromiseTest {
         due("but not the tenant", x.named(1, 1705), 0);
         due("no such settlement", x.named(2, 1705), -1);
         due("no such settlement", x.named(-1, 1705), -1);
+        due("as known on the last year", x.named(0, 1999), 4);
         due("no such year", x.named(0, 1699), -1);
         due("no such year", x.named(0, 2000), -1);
     }
@@ -418,9 +419,12 @@ public final class PromiseTest {
         due("or", x.falls(3, 6, 1), 10);
         due("no clause holds", x.falls(3, 8, 3), 0);
         due("not fewer than two, d not named twice", x.falls(3, 10, 3), 10);
+        settle(x, 10, 0, "b(#<10&#<03);c(#>11|#=03);d");
+        due("two of three", x.falls(4, 6, 1), 10);
+        due("three of three", x.falls(4, 14, 2), 10);
         settle(x, 10, 0, "b(c|d&b)");
-        due("an & binds more than a |", x.falls(4, 6, 1), 10);
-        due("an & binds more than a |", x.falls(4, 2, 1), 0);
+        due("an & binds more than a |", x.falls(5, 6, 1), 10);
+        due("an & binds more than a |", x.falls(5, 2, 1), 0);
     }
 
     private static void chance() {
@@ -599,7 +603,9 @@ public final class PromiseTest {
         actText("(((((((p)))))))<1", -5006);
         actText("((((((p))))))<((((((p))))))", 0);
         actText("1<(((((((", -5008);
-        actText("p+" + "1+".repeat(27) + "1<1", 0);
+        actText("p+" + "1+".repeat(27) + "1<12", 0);
+        actText("p*2+1234567890<12345", -2010);
+        actText("p*2+123456-98765<123", 0);
         HopeOffice y = small();
         settle(y, 100, 0, "b(!c);c");
         act(y, "w>0");
@@ -629,6 +635,7 @@ public final class PromiseTest {
         weighed("a>25", 1);
         weighed("a<27", 1);
         weighed("v<1", 1);
+        weighed("v+1>0", 1);
         weighed("t>299", 1);
         weighed("t<301", 1);
         weighed("10-3-2<6", 1);
@@ -650,6 +657,9 @@ public final class PromiseTest {
         due("without an act", x.hard(0), 0);
         act(x, "v*w>p");
         due("advised", x.hard(0), 1);
+        act(x, "v>1");
+        due("advised", x.hard(0), 0);
+        act(x, "v>0");
         due("sale 1", x.hard(1), -1);
         due("sale -1", x.hard(-1), -1);
         x.now(1701);
@@ -731,6 +741,7 @@ public final class PromiseTest {
         due("of the greatest sum", x.cover(0, 1, 100000), 33333);
         due("sum 0", x.cover(0, 1, 0), -1);
         due("sum 100001", x.cover(0, 1, 100001), -1);
+        due("of 1", x.cover(0, 1, 1), 0);
         due("of the tenant", x.cover(0, 0, 1), -1);
         due("person 4", x.cover(0, 4, 1), -1);
         due("settlement 1", x.cover(1, 1, 1), -1);
