@@ -479,6 +479,17 @@ public final class PromiseTest {
         due("in 1704", x.worth(0, 2, 1700, 1704), -1);
         due("person 4", x.worth(0, 4, 1700, 1700), -1);
         due("y 2000", x.worth(0, 1, 1700, 2000), -1);
+        HopeOffice late = new HopeOffice();
+        late.now(1990);
+        late.number(0, 0);
+        late.table(0, 0, 9);
+        late.table(0, 1, 9);
+        late.person(1980, -1);
+        late.person(1990, -1);
+        settle(late, 100, 0, "b");
+        due("in the last year", late.worth(0, 1, 1990, 1999), 100);
+        due("in the last year there are branches", late.chance(0, 1, 1990, 1999, 1), 9);
+        due("as known on a year ahead", late.chance(0, 1, 1999, 1999, 1), 9);
         HopeOffice big = new HopeOffice();
         big.number(0, 0);
         for (int i = 0; i <= 10; i++) {
