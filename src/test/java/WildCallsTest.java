@@ -1,7 +1,13 @@
+import java.util.ArrayList;
+import java.util.Arrays;
+import java.util.List;
 import java.util.Random;
 
 /** Calls with any arguments in any state: none throws, and one that is refused changes nothing. */
 public final class WildCallsTest {
+    private static final int WILD_CALLS = 200;
+    /** The calls that answer true or false. */
+    private static final String YES_OR_NO = " 0 2 3 5 14 24 ";
     private static int wrong = 0;
     private static final int[] EDGES = {Integer.MIN_VALUE, -1001, -2, -1, 0, 1, 2, 3, 7, 8, 9, 10, 11, 15, 16, 20, 21, 39, 40, 41, 60,
         61, 100, 101, 110, 111, 200, 201, 400, 401, 1000, 1001, 1600, 1699, 1700, 1701, 1702, 1999, 2000, 65535, 65536, 100000, 100001,
@@ -9,7 +15,7 @@ public final class WildCallsTest {
     private static final String SIGNS = "abcd*,;/29(|&!#<>=10)p+-wavt";
 
     public static void main(String[] args) {
-        for (int seed = 1; seed <= 400 && wrong == 0; seed++) {
+        for (int seed = 1; seed <= 2000 && wrong == 0; seed++) {
             run(seed);
         }
         System.out.println(wrong == 0 ? "no wild call threw or left a trace" : wrong + " wrong");
@@ -18,34 +24,70 @@ public final class WildCallsTest {
         }
     }
 
+    /**
+     * One object gets all calls, one only those that were not refused, one all of them once more:
+     * what they answer, and what can be seen of them at last, is the same.
+     */
     private static void run(int seed) {
         Random random = new Random(seed * 31L);
-        HopeOffice x = new HopeOffice();
-        HopeOffice twin = new HopeOffice();
-        for (int i = 0; i < 512 && wrong == 0; i++) {
+        HopeOffice all = begun(seed);
+        HopeOffice taken = begun(seed);
+        HopeOffice twin = begun(seed);
+        for (int i = 0; i < WILD_CALLS && wrong == 0; i++) {
             int what = random.nextInt(28);
             int[] a = new int[6];
             for (int j = 0; j < 6; j++) {
                 a[j] = argument(random, what);
             }
-            long before = trace(x);
-            long answer = 0;
+            String told = "seed " + seed + ": call " + what + " " + Arrays.toString(a);
             try {
-                answer = call(x, what, a);
+                long answer = call(all, what, a);
+                boolean refused = answer == -1 || (answer == 0 && YES_OR_NO.indexOf(" " + what + " ") >= 0);
+                need(refused || answer == call(taken, what, a), told + " answers otherwise without the refused ones");
+                need(answer == call(twin, what, a), told + " answers a twin otherwise");
             } catch (RuntimeException | StackOverflowError e) {
-                wrong++;
-                System.out.println("seed " + seed + ": call " + what + " threw " + e);
-            }
-            boolean refused = answer == -1 || (answer == 0 && (what == 0 || what == 2 || what == 3 || what == 5 || what == 14 || what == 24));
-            if (refused && before != trace(x)) {
-                wrong++;
-                System.out.println("seed " + seed + ": call " + what + " was refused and left a trace");
-            }
-            if (answer != call(twin, what, a) || trace(x) != trace(twin)) {
-                wrong++;
-                System.out.println("seed " + seed + ": call " + what + " answers a twin otherwise");
+                need(false, told + " threw " + e);
             }
         }
+        List<Long> seen = trace(all);
+        need(seen.equals(trace(taken)), "seed " + seed + ": a refused call left a trace");
+        need(seen.equals(trace(twin)), "seed " + seed + ": a twin looks otherwise");
+    }
+
+    private static void need(boolean stands, String what) {
+        if (!stands) {
+            wrong++;
+            System.out.println(what);
+        }
+    }
+
+    /** A new object, or (by an odd seed) one that knows something of all there is. */
+    private static HopeOffice begun(int seed) {
+        HopeOffice x = new HopeOffice();
+        if (seed % 2 == 0) {
+            return x;
+        }
+        for (int i = 0; i < 7; i++) {
+            x.table(0, i, 90 - 13 * i);
+            x.person(1640 + 8 * i, i < 5 ? -1 : i - 3);
+        }
+        // The texts "b(!c);c/2,*d" and "*c;b", the act "p*2<w".
+        x.feed(0x62282163, 0x293b632f, 0x322c2a64, 0, 0);
+        x.settle(1000, 0, 0, 12);
+        x.feed(0x2a633b62, 0, 0, 0, 0);
+        x.settle(77, 1, 0, 4);
+        x.feed(0x702a323c, 0x77000000, 0, 0, 0);
+        x.act(5);
+        for (int i = 0; i < 6; i++) {
+            x.sale(2 + i % 4, i % 2, 150 * (i + 1), i / 4, 10 * i, i < 3);
+            x.charge(2 + i % 4, i % 2, i / 4, 10 + i);
+        }
+        x.notice(3, 60);
+        x.papers(1, 1701 - seed % 40);
+        if (seed % 4 == 1) {
+            x.dies(0, 1690);
+        }
+        return x;
     }
 
     private static int argument(Random random, int what) {
@@ -99,28 +141,31 @@ public final class WildCallsTest {
         }
     }
 
-    /** All that can be seen of an object without changing it. */
-    private static long trace(HopeOffice x) {
-        long sum = x.falseOnes();
+    /** What can be seen of an object by some 250 calls. */
+    private static List<Long> trace(HopeOffice x) {
+        List<Long> seen = new ArrayList<>();
+        seen.add((long) x.falseOnes());
         for (int i = 0; i < 60; i++) {
-            sum = sum * 31 + x.count(i);
+            seen.add((long) x.count(i));
         }
-        for (int i = 0; i < x.count(3); i++) {
+        int sales = x.count(3);
+        for (int i = Math.max(0, sales - 8); i < sales; i++) {
             for (int what = 0; what < 9; what++) {
-                sum = sum * 31 + x.look(i, what);
+                seen.add((long) x.look(i, what));
             }
         }
-        for (int t = 0; t < 4; t++) {
-            for (int age = 0; age < 120; age += 10) {
-                sum = sum * 31 + x.lives(t, age);
+        for (int i = 0; i < 44; i++) {
+            seen.add((long) x.lives(i % 4, i / 4 * 10));
+        }
+        int persons = x.count(1);
+        for (int s = 0; s < Math.min(2, x.count(2)); s++) {
+            seen.add((long) x.named(s, x.count(0)));
+            for (int o = 0; o < Math.min(8, persons); o++) {
+                seen.add((long) x.falls(s, (1 << persons) - 1, o));
+                seen.add((long) x.paid(s, o, 0, 1999));
             }
         }
-        for (int s = 0; s < x.count(2); s++) {
-            sum = sum * 31 + x.named(s, x.count(0));
-            for (int o = 0; o < x.count(1); o++) {
-                sum = sum * 31 + x.falls(s, (1 << x.count(1)) - 1, o);
-            }
-        }
-        return sum;
+        seen.add((long) x.settle(1, 0, 0, x.count(6)));
+        return seen;
     }
 }
