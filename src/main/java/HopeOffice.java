@@ -323,13 +323,13 @@ public final class HopeOffice {
         }
         int left = gained - gained * duty / 100;
         int payment = 0;
-        for (int i = 0; i < charges.size; i++) {
+        for (int i = 0; i < charges.size && i < MOST_CHARGES; i++) {
             int part = charges.binds(i, o, s, t) ? Math.min(left, charges.due[i]) : 0;
             left -= part;
             payment += charges.payee[i] == x ? part : 0;
         }
         int parted = left;
-        for (int i = 0; i < sales.size; i++) {
+        for (int i = 0; i < sales.size && i < MOST_SALES; i++) {
             int part = sales.binds(i, o, s) ? parted * sales.partsReached(i, t) / THOUSAND : 0;
             left -= part;
             payment += sales.buyer[i] == x ? part : 0;
@@ -365,7 +365,7 @@ public final class HopeOffice {
 
     public int falseOnes() {
         int set = 0;
-        for (int o = 0; o < people.size; o++) {
+        for (int o = 0; o < people.size && o < MOST_PERSONS; o++) {
             if (people.isFalse(o)) {
                 set |= 1 << o;
             }
@@ -1229,7 +1229,7 @@ public final class HopeOffice {
         }
 
         boolean binds(int i, int o, int s, int t) {
-            return i >= 0 && i < size && person[i] == o && settlement[i] == s && toldIn[i] <= t;
+            return i >= 0 && i < size && i < MOST_CHARGES && person[i] == o && settlement[i] == s && toldIn[i] <= t;
         }
     }
 

@@ -39,7 +39,27 @@ public final class BoundsOfFallsTest extends Bounds {
         due("fifteen children", many.named(0, 1700), 15);
         settle(many, 1, 15, "*a,a");
         due("fourteen children and their parent", many.named(1, 1700), 15);
+        HopeOffice heirs = people(1);
+        heirs.person(1690, 0);
+        heirs.person(1690, NONE);
+        settle(heirs, 1, 0, "c");
+        due("the TENANT's child is not named by itself", heirs.named(0, 1700), 1);
+        settle(heirs, 1, 0, "c,*a");
+        due("but behind a *", heirs.named(1, 1700), 2);
         says(11, "(Only who is there as KNOWN on t.)");
+        HopeOffice late = new HopeOffice();
+        late.now(1702);
+        late.person(1690, NONE);
+        late.person(1690, 0);
+        settle(late, 1, 1, "a");
+        due("the first person on 1702", late.named(0, 1702), 1);
+        due("nobody was there on 1701", late.named(0, 1701), 0);
+        HopeOffice child = people(2);
+        settle(child, 1, 1, "*a");
+        child.now(1702);
+        child.person(1690, 0);
+        due("the first person's child on 1702", child.named(0, 1702), 1);
+        due("it was not there on 1701", child.named(0, 1701), 0);
         HopeOffice y = five();
         settle(y, 1, 0, "e,f,*d,*f");
         due("e", y.named(0, 1700), 1);
@@ -148,6 +168,17 @@ public final class BoundsOfFallsTest extends Bounds {
         gets(5, "*d", 126, 0, 0, 0, 1, 1, 1);
         gets(10, "*b", 126, 0, 0, 0, 0, 0, 0);
         gets(10, "*p", 126, 0, 0, 0, 0, 0, 0);
+        HopeOffice heirs = people(1);
+        heirs.person(1690, 0);
+        heirs.person(1690, 0);
+        heirs.person(1670, NONE);
+        settle(heirs, 9, 0, "*a");
+        due("the TENANT's first child", heirs.falls(0, 15, 1), 4);
+        due("the TENANT's second child", heirs.falls(0, 15, 2), 4);
+        due("who is no child", heirs.falls(0, 15, 3), 0);
+        settle(heirs, 9, 3, "a(#=3&*a)");
+        due("the first person is one of three", heirs.falls(1, 15, 0), 9);
+        due("the first person is one of two", heirs.falls(1, 11, 0), 0);
         says(12, "What comes to nobody stays with the trustees; all SHARES are asked by the whole FUND;");
         gets(10, "b/2", 126, 5, 0, 0, 0, 0, 0);
         gets(10, "b/2,c/2", 4, 0, 5, 0, 0, 0, 0);
@@ -179,6 +210,8 @@ public final class BoundsOfFallsTest extends Bounds {
         gets(10, "b(c);c(d)", 2, 0, 0, 0, 0, 0, 0);
         gets(10, "b(d);b(d);b(d);b(d);b(d);b(d);b(d);b/2,c/2", 6, 5, 5, 0, 0, 0, 0);
         gets(10, "b(d);b(d);b(d);b(d);b(d);b(d);b(d);b/5,c,d,e(!d)", 22, 2, 8, 0, 0, 0, 0);
+        gets(9, "b,b,b,b(d);".repeat(7) + "b/9,c/9,b/9,c/9", 6, 2, 2, 0, 0, 0, 0);
+        gets(9, "b/9,b/9,b/9,b/9(b);".repeat(3) + "c", 2, 4, 0, 0, 0, 0, 0);
     }
 
     /** Whether a condition holds for a set of those alive, b among them; c, d and d's children are named behind it. */
@@ -206,6 +239,7 @@ public final class BoundsOfFallsTest extends Bounds {
         holdsFor("#>0", 2, true);
         holdsFor("#>00", 2, true);
         holdsFor("#<0", 2, false);
+        holdsFor("#<0", 126, false);
         holdsFor("#<1", 2, false);
         holdsFor("#<2", 2, true);
         holdsFor("#<99", 126, true);
@@ -348,6 +382,11 @@ public final class BoundsOfFallsTest extends Bounds {
         says(13, "HAS: LIVES at the AGE in y.");
         due("a has one life at 39", x.chance(0, 2, 1700, 1703, 1), 9);
         due("and none at 40", x.chance(0, 2, 1700, 1704, 1), NONE);
+        HopeOffice last = five();
+        settle(last, 100, 1, "a");
+        due("a NAMED one with one life", last.chance(0, 0, 1700, 1700, 1), 3);
+        due("who can't outlive the TENANT", last.chance(0, 0, 1700, 1700, 0), 0);
+        due("whose hope is worth nothing", last.worth(0, 0, 1700, 1700), 0);
         says(13, "with LIVES of the TABLE");
         HopeOffice tables = five();
         tables.table(3, 0, 7);
@@ -411,6 +450,11 @@ public final class BoundsOfFallsTest extends Bounds {
         x.number(0, 10);
         // DISCOUNTS 683011, 424094, 263327 of 33: 22, 13 and 8.
         due("each year's DISCOUNT is rounded", x.worth(0, 4, 1700, 1700), 43);
+        HopeOffice alone = five();
+        settle(alone, 100, 0, "c");
+        due("200 through 3", alone.worth(0, 2, 1700, 1700), 66);
+        settle(alone, 100, 0, "p");
+        due("a WHOLE of 1, and nobody named", alone.worth(1, 2, 1700, 1700), 0);
         HopeOffice soon = five();
         soon.number(0, 5);
         soon.person(1661, NONE);

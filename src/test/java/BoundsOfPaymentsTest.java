@@ -60,6 +60,13 @@ public final class BoundsOfPaymentsTest extends Bounds {
         y.person(1700, 1);
         due("one who was told of in 1706", y.gain(0, 10, 1706), 45);
         due("one who was not there on 1705", y.gain(0, 10, 1705), 0);
+        HopeOffice first = five();
+        settle(first, 9, 1, "a,c");
+        first.dies(1, 1700);
+        due("the first person outlives the TENANT", first.gain(0, 0, 1700), 9);
+        first.dies(0, 1700);
+        due("and dies with it", first.gain(0, 0, 1700), 0);
+        due("the next has it", first.gain(0, 2, 1700), 9);
         HopeOffice z = fallen();
         settle(z, 7, 0, "b");
         due("a SETTLEMENT of one who was dead", z.gain(2, 1, 1705), 7);
@@ -149,6 +156,7 @@ public final class BoundsOfPaymentsTest extends Bounds {
         pays("a third that gets what is left", sold(100, 300, 600, 400), 40, 0, 60);
         pays("two halves of 1", sold(1, 500, 500), 0, 1, 0);
         pays("three parts rounded", sold(10, 333, 333, 334), 6, 1, 3);
+        pays("forty parts rounded", fortySales(), 40, 20, 40);
     }
 
     /** Who of b and d is ahead, by two SALES of all, with notices (a YEAR and a MINUTE each; -1 without). */
@@ -276,6 +284,25 @@ public final class BoundsOfPaymentsTest extends Bounds {
         held("a and c alive or not", x, 10, 1, 1000, 0, 3);
         x.sale(1, 0, 1000, 10, 0, true);
         held("a and b are dead as TENANTS", x, 10, 2, 2000, 0, 1);
+        HopeOffice first = people(4);
+        settle(first, 100, 1, "a(!c|d);c");
+        first.sale(0, 0, 1000, 3, 0, true);
+        held("the first person is named: a dead, or c alive and d not", first, 3, 1, 1000, 0, 5);
+        first.dies(2, 1700);
+        held("c is KNOWN to be dead", first, 3, 1, 1000, 0, 2);
+        HopeOffice gone = people(4);
+        settle(gone, 100, 1, "a(!c);d");
+        gone.sale(0, 0, 1000, 3, 0, true);
+        gone.dies(2, 1700);
+        held("in no way is c alive", gone, 3, 1, 1000, 0, 2);
+        HopeOffice crossed = people(4);
+        settle(crossed, 100, 0, "c");
+        settle(crossed, 100, 0, "b");
+        crossed.sale(1, 0, 1000, 3, 0, true);
+        crossed.sale(2, 1, 1000, 3, 0, true);
+        held("what comes to a seller elsewhere", crossed, 3, 2, 2000, 0, 4);
+        HopeOffice rich = sold(100000, 500, 500);
+        held("another's SALE takes nothing away", rich, 1, 1, 500, 0, 1);
         says(25, "(by thousandths alone: what is left of 1000 by NOTICE as in part 4, no DUTY, no CHARGES)");
         HopeOffice y = sold(100, 1000, 1000);
         held("the first has all", y, 1, 1, 1000, 0, 1);

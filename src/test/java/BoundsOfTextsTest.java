@@ -78,11 +78,12 @@ public final class BoundsOfTextsTest extends Bounds {
         due("a fault", z.settle(9, 1, 0, 20), -2007);
         due("no settlement", z.count(2), 2);
         due("empty then", z.count(6), 0);
-        due("a text that ends too early", settle(z, 9, 1, "a,c,*d;*d;e(a|*d&!(c|#<3"), -1024);
-        due("a good one has the number", settle(z, 9, 1, "e"), 2);
-        due("and nothing of the bad one", z.named(2, 1700), 1);
+        due("a text that ends too early", settle(z, 9, 1, "a,c,*d;*d;e(a|*d&!(c&#>9"), -1024);
+        due("a good one has the number", settle(z, 9, 1, "c/2"), 2);
+        due("and nothing of the bad one's names", z.named(2, 1700), 1);
         due("nor its clauses", z.count(22), 1);
-        due("nor its FUND's part", z.falls(2, 16, 4), 9);
+        due("nor its shares and conditions", z.falls(2, 31, 2), 4);
+        due("nor its takers", z.falls(2, 31, 4), 0);
         due("the others stay", z.falls(0, 2, 1), 100);
         due("the others stay", z.falls(1, 20, 4), 60);
     }
@@ -125,6 +126,9 @@ public final class BoundsOfTextsTest extends Bounds {
         text("b,b,b,b", 0);
         text("b/2,*b/3,b/9,*b", 0);
         text("b,b,b,b;b,b,b,b(b)", 0);
+        text("b,b,b,b;".repeat(7) + "b,b,b,b", 0);
+        text("b,b,b,b;".repeat(7) + "b,b,b,b,b", -4064);
+        text("b,b,b,b;".repeat(8) + "b", -3064);
         text(",b", -1000);
         text("b,", -1002);
         text("b,,b", -1002);
