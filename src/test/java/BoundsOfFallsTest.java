@@ -179,6 +179,9 @@ public final class BoundsOfFallsTest extends Bounds {
         settle(heirs, 9, 3, "a(#=3&*a)");
         due("the first person is one of three", heirs.falls(1, 15, 0), 9);
         due("the first person is one of two", heirs.falls(1, 11, 0), 0);
+        settle(heirs, 9, 3, "b(a);b/2");
+        due("the first person is alive", heirs.falls(2, 3, 1), 9);
+        due("the first person is dead", heirs.falls(2, 2, 1), 4);
         says(12, "What comes to nobody stays with the trustees; all SHARES are asked by the whole FUND;");
         gets(10, "b/2", 126, 5, 0, 0, 0, 0, 0);
         gets(10, "b/2,c/2", 4, 0, 5, 0, 0, 0, 0);
@@ -353,6 +356,18 @@ public final class BoundsOfFallsTest extends Bounds {
         says(13, "It is not RECKONED if more than four of the NAMED are not KNOWN to be dead,");
         HopeOffice four = nine("e,f,g,h");
         due("four", four.chance(0, 4, 1700, 1700, 1), 256);
+        settle(four, 100, 0, "e(!f);f");
+        due("two behind four", four.chance(1, 4, 1700, 1700, 1), 16);
+        due("f is alive", four.chance(1, 4, 1700, 1700, 0), 0);
+        settle(four, 100, 1, "e(!c);c");
+        due("e, behind four", four.chance(0, 4, 1700, 1700, 0), 256);
+        due("e's worth, behind four", four.worth(0, 4, 1700, 1700), 100);
+        due("e, if c is dead", four.chance(2, 4, 1700, 1700, 0), 4 * (1 + 2 + 3));
+        due("e's worth, if c is dead", four.worth(2, 4, 1700, 1700), 11 + 22 + 33);
+        HopeOffice mixed = nine("b,c,e,f");
+        settle(mixed, 100, 0, "b,c");
+        due("e, if b and c are dead", mixed.chance(0, 4, 1700, 1700, 0), 16);
+        due("e, where it is not named", mixed.chance(1, 4, 1700, 1700, 0), 0);
         HopeOffice fifth = nine("e,f,g,h(!i)");
         due("five", fifth.chance(0, 4, 1700, 1700, 1), NONE);
         due("five", fifth.chance(0, 4, 1700, 1700, 0), NONE);

@@ -84,6 +84,9 @@ public final class BoundsOfTextsTest extends Bounds {
         due("nor its clauses", z.count(22), 1);
         due("nor its shares and conditions", z.falls(2, 31, 2), 4);
         due("nor its takers", z.falls(2, 31, 4), 0);
+        due("another that ends too early", settle(z, 9, 1, "e(!e);c;e("), -1010);
+        due("a good one has the number", settle(z, 9, 1, "c(!c)"), 3);
+        due("and nothing of the bad one's last clauses", z.falls(3, 31, 2), 0);
         due("the others stay", z.falls(0, 2, 1), 100);
         due("the others stay", z.falls(1, 20, 4), 60);
     }
@@ -233,6 +236,11 @@ public final class BoundsOfTextsTest extends Bounds {
         text("b( b)", -1002);
         text("b(#< 1)", -1004);
         text("* b", -1001);
+        text("b\0", -1001);
+        text("\0b", -1000);
+        text("b(b\0", -1003);
+        text("b" + (char) 255, -1001);
+        text("b\n", -1001);
         says(10, "2 a letter (but behind a *) that is the TENANT's, at it;");
         text("a", -2000);
         text("b,a", -2002);
@@ -356,6 +364,9 @@ public final class BoundsOfTextsTest extends Bounds {
         words("p <w", -1001);
         words(" p<w", -1000);
         words("p<w ", -1003);
+        words("p<w\0", -1003);
+        words("p\0<w", -1001);
+        words("p<1" + (char) 255, -1003);
         words("(" + "1+".repeat(29) + "1", -1060);
         says(18, "E: TERMS with + or - between two; a TERM: FACTORS with * between two; a FACTOR: (E), a number of one to six digits, or a letter");
         words("p+w-a*v*t<t", 0);
